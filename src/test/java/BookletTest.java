@@ -406,6 +406,10 @@ public final class BookletTest {
         x.fold(2);
         DUE.is("pageOf(31) by 2", x.pageOf(31), 0);
         DUE.is("pageOf(0) by 2, hidden", x.pageOf(0), 1);
+        x.unfold();
+        x.print(0, 0, 1, 5, 0);
+        x.fold(2);
+        DUE.is("pageOf(5), the last page", x.pageOf(5), 3);
     }
 
     private static void effort() {

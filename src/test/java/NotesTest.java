@@ -173,6 +173,15 @@ public final class NotesTest {
         x.addNote(1, 0, 10, 0);
         noteIs(x, 0, NONE, NONE, NONE);
         noteIs(x, 1, 0, 0, 1);
+        x.removeNote(1);
+        for (int i = 1; i < 12; i++) {
+            x.addNote(20 - i, 2, 1, 1);
+        }
+        // 11 (line 0), 10, 9, 8, 7 (line 4), 6 (page 1, line 0), 5, 4, 3, 2 (line 4); 1 has no room.
+        noteIs(x, 11, 0, 0, 0);
+        noteIs(x, 6, 1, 0, 1);
+        noteIs(x, 2, 1, 4, 1);
+        noteIs(x, 1, NONE, NONE, NONE);
     }
 
     private static void index() {
@@ -186,13 +195,17 @@ public final class NotesTest {
         x.addNote(3, 0, 5, 0);
         x.addNote(99, 9, 4, 0);
         x.addNote(7, 5, 1, 0);
-        x.addNote(0, 0, 11, 1);
-        // 99 (lines 0 to 3), 7 (4, page 0), 7 (5 to 9, page 3), 3 (10 to 14, page 4); 0 has no room.
+        x.addNote(1, 0, 11, 1);
+        // 99 (lines 0 to 3), 7 (4, page 0), 7 (5 to 9, page 3), 3 (10 to 14, page 4); 1 has no room.
         int[][] due = {{3, 4}, {7, 0}, {99, 0}};
         for (int place = 0; place < 3; place++) {
             DUE.is("index(" + place + ", 0)", x.index(place, 0), due[place][0]);
             DUE.is("index(" + place + ", 1)", x.index(place, 1), due[place][1]);
         }
+        x.addNote(0, 0, 1, 0);
+        DUE.is("index(0, 0), subject 0", x.index(0, 0), 0);
+        DUE.is("index(0, 1), subject 0", x.index(0, 1), 4);
+        x.undo();
         DUE.is("index(3, 0)", x.index(3, 0), NONE);
         DUE.is("index(3, 1)", x.index(3, 1), NONE);
         DUE.is("index(MAX, 1)", x.index(MAX, 1), NONE);

@@ -42,6 +42,8 @@ public final class SheetTest {
                 DUE.is("its turn", x.side(cell / 4, cell % 4, side, 1), 0);
             }
         }
+        DUE.is("layer(8, 0, 0)", x.layer(8, 0, 0), INVALID);
+        DUE.is("side(2, 0, 0, 0)", x.side(2, 0, 0, 0), INVALID);
         DUE.is("effort(4)", x.effort(4), 0);
         DUE.is("undo()", x.undo(), ILLEGAL);
         DUE.is("note(0, 0)", x.note(0, 0), INVALID);
@@ -287,6 +289,10 @@ public final class SheetTest {
         DUE.is("side(0, 0, 1, 0)", x.side(0, 0, 1, 0), NONE);
         x.fold(3);
         DUE.is("side(1, 0, 0, 0) when folded", x.side(1, 0, 0, 0), 12);
+        x = sheet(4, 4);
+        x.print(3, 3, 1, 31, 1);
+        DUE.is("side(3, 3, 1, 0)", x.side(3, 3, 1, 0), 31);
+        DUE.is("side(3, 3, 1, 1)", x.side(3, 3, 1, 1), 1);
     }
 
     /** Each layer as row, column, side that is up, upside down, mirrored. */

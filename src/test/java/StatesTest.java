@@ -256,7 +256,9 @@ public final class StatesTest {
         DUE.is("side(0, 0, 1, 0)", x.side(0, 0, 1, 0), 1);
         DUE.is("cuts", x.count(6), 4);
         ran("sheet 4 4 ; print 4321 ;", 2);
-        ran("note0 0 1whole;", 1);
+        x = ran("note0 0 1whole;note 0 0 1;", 2);
+        DUE.is("whole of the first", x.note(0, 3), 1);
+        DUE.is("whole of the second", x.note(1, 3), 0);
         ran("note 99 9 20 ;", 1);
         ran("lines 9 ; lines9;", 2);
         ran("fold 1 1 3;unfold;unfold ; unfold;", 4);
@@ -278,11 +280,12 @@ public final class StatesTest {
             "note@;", "note 1@;", "note 1 1@;", "note 1 1 @whole;", "note 1 1 1 @1;", "note 1 1 1 @hole;",
             "note 1 1 1 whole @whole;", "note 1 1 1 whole@", "@note 100 1 1;", "@note 1 10 1;", "@note 1 1 0;", "@note 1 1 21 whole;",
             "note 1 1 1@.", "lines@;", "@lines 0;", "@lines 10;", "lines 5 @5;", "lines 5;@;", "lines 5; @;lines 5;",
-            "lines 5; @line 5;", "lines @\u00ff5;", "@5 lines;", "@\u00ffsheet 1 1;", "sheet 1 1;@;", "@left;", "@whole;",
+            "lines 5; @line 5;", "lines @\u00ff5;", "@5 lines;", "@\u00ffsheet 1 1;", "sheet 1 1;@;", "@left;", "@whole;", "@bold 1;", "@foldz 1;", "@zunfold;", "@afold 1;", "cut @deft;", "fold 1@:;", "fold @/1;", "fold@`1;", "fold@{1;",
             "@fold 5 ; zzz", "fold 5 @zzz;", "sheet 1 1;@x;cut left;", "lines 1;lines 2;note 1 1@"};
+        CribBooklet x;
         for (String text : texts) {
             String bare = text.replace("@", "");
-            CribBooklet x = ran(bare, -1000 - text.indexOf('@'));
+            x = ran(bare, -1000 - text.indexOf('@'));
             DUE.is("states behind «" + bare + "»", x.count(11), 0);
             DUE.is("rows behind it", x.count(0), 2);
             DUE.is("columns behind it", x.count(1), 4);
@@ -292,6 +295,11 @@ public final class StatesTest {
             DUE.is("effort behind it", x.effort(4), 0);
         }
         ran("@;", -1000);
+        x = ran("lines 55        ;", -1000);
+        x.clearText();
+        run(x, "lines 5", -1007);
+        x.clearText();
+        run(x, "lines 5  ", -1009);
     }
 
     private static void runStates() {
