@@ -887,11 +887,19 @@ public final class CribBooklet {
         }
 
         int rowAt(int index) {
-            return (at(index) & CELL) / CELLS_A_ROW;
+            return rowOf(at(index));
         }
 
         int columnAt(int index) {
-            return (at(index) & CELL) % CELLS_A_ROW;
+            return columnOf(at(index));
+        }
+
+        private static int rowOf(int layer) {
+            return (layer & CELL) / CELLS_A_ROW;
+        }
+
+        private static int columnOf(int layer) {
+            return (layer & CELL) % CELLS_A_ROW;
         }
 
         boolean isMirrored(int index) {
@@ -924,19 +932,21 @@ public final class CribBooklet {
 
         /** The set with the edge along which two leaves hang together, or an empty one. */
         int edgesBetween(int one, int other) {
-            int rowsOn = rowAt(other) - rowAt(one);
-            int columnsOn = columnAt(other) - columnAt(one);
+            int first = at(one);
+            int second = at(other);
+            int rowsOn = rowOf(second) - rowOf(first);
+            int columnsOn = columnOf(second) - columnOf(first);
             if (rowsOn == 0 && columnsOn == 1) {
-                return 1 << edgeToRight(at(one));
+                return 1 << edgeToRight(first);
             }
             if (rowsOn == 0 && columnsOn == -1) {
-                return 1 << edgeToRight(at(other));
+                return 1 << edgeToRight(second);
             }
             if (columnsOn == 0 && rowsOn == 1) {
-                return 1 << edgeBelow(at(one));
+                return 1 << edgeBelow(first);
             }
             if (columnsOn == 0 && rowsOn == -1) {
-                return 1 << edgeBelow(at(other));
+                return 1 << edgeBelow(second);
             }
             return 0;
         }

@@ -267,21 +267,26 @@ public final class StatesTest {
     private static void runFailures() {
         DUE.of("promise 22, failures");
         // The sign @ marks the place of the failure; it is no part of the text.
-        String[] texts = {"@;", "sheet@;", "@sheet 0 1;", "sheet 2@;", "sheet 2 2 @2;", "sheet 2 2@",
-            "sheet 2 2  @", "sheet 22@;", "sheet @02 2;", "sheet @00 2;", "sheet @12345 2;", "@sheet 1234 2;", "@sheet 3 2;",
+        String[] texts = {
+            "@;", "sheet@;", "@sheet 0 1;", "sheet 2@;", "sheet 2 2 @2;", "sheet 2 2@", "sheet 2 2  @",
+            "sheet 22@;", "sheet @02 2;", "sheet @00 2;", "sheet @12345 2;", "@sheet 1234 2;", "@sheet 3 2;",
             "sheet 2 @two;", "@sheets 2 2;", "@Sheet 2 2;", "@sheetx;", "sheet 2@,2;", "sheet@\t2 2;",
-            "fold@;", "fold @x;", "fold 1 3 1 3 @1;", "@fold 1 3 1 3;", "@fold 0;", "@fold 1 1 1;", "fold 1;@fold 1 1 ;",
-            "unfold @1;", "@unfold;", "fold 1;unfold;@unfold;", "unfold@", "unfold  @",
-            "spine @right;", "spine @bottom;", "spine@;", "spine @1;", "spine @lefty;", "spine left@", "spine left @left;",
-            "print@;", "@print 1;", "print 113 @1;", "print @x;", "@print 0;", "@print 1133;", "print @11331;",
-            "cut @middle;", "cut@;", "@cut left;", "sheet 1 1;cut left;@cut left;", "cut @0;",
-            "staple@;", "@staple 1;", "sheet 1 1;@staple 10;", "sheet 1 1;staple 1;@staple 1;", "staple @left;",
-            "sheet 1 1;staple 1;staple 2;staple 3;@staple 4;", "sheet 1 1;staple 1;@spine top;",
-            "note@;", "note 1@;", "note 1 1@;", "note 1 1 @whole;", "note 1 1 1 @1;", "note 1 1 1 @hole;",
-            "note 1 1 1 whole @whole;", "note 1 1 1 whole@", "@note 100 1 1;", "@note 1 10 1;", "@note 1 1 0;", "@note 1 1 21 whole;",
-            "note 1 1 1@.", "lines@;", "@lines 0;", "@lines 10;", "lines 5 @5;", "lines 5;@;", "lines 5; @;lines 5;",
-            "lines 5; @line 5;", "lines @\u00ff5;", "@5 lines;", "@\u00ffsheet 1 1;", "sheet 1 1;@;", "@left;", "@whole;", "@bold 1;", "@foldz 1;", "@zunfold;", "@afold 1;", "cut @deft;", "fold 1@:;", "fold @/1;", "fold@`1;", "fold@{1;",
-            "@fold 5 ; zzz", "fold 5 @zzz;", "sheet 1 1;@x;cut left;", "lines 1;lines 2;note 1 1@"};
+            "fold@;", "fold @x;", "fold 1 3 1 3 @1;", "@fold 1 3 1 3;", "@fold 0;", "@fold 1 1 1;",
+            "fold 1;@fold 1 1 ;", "unfold @1;", "@unfold;", "fold 1;unfold;@unfold;", "unfold@", "unfold  @",
+            "spine @right;", "spine @bottom;", "spine@;", "spine @1;", "spine @lefty;", "spine left@",
+            "spine left @left;", "print@;", "@print 1;", "print 113 @1;", "print @x;", "@print 0;",
+            "@print 1133;", "print @11331;", "cut @middle;", "cut@;", "@cut left;",
+            "sheet 1 1;cut left;@cut left;", "cut @0;", "staple@;", "@staple 1;", "sheet 1 1;@staple 10;",
+            "sheet 1 1;staple 1;@staple 1;", "staple @left;",
+            "sheet 1 1;staple 1;staple 2;staple 3;@staple 4;", "sheet 1 1;staple 1;@spine top;", "note@;",
+            "note 1@;", "note 1 1@;", "note 1 1 @whole;", "note 1 1 1 @1;", "note 1 1 1 @hole;",
+            "note 1 1 1 whole @whole;", "note 1 1 1 whole@", "@note 100 1 1;", "@note 1 10 1;",
+            "@note 1 1 0;", "@note 1 1 21 whole;", "note 1 1 1@.", "lines@;", "@lines 0;", "@lines 10;",
+            "lines 5 @5;", "lines 5;@;", "lines 5; @;lines 5;", "lines 5; @line 5;", "lines @\u00ff5;",
+            "@5 lines;", "@\u00ffsheet 1 1;", "sheet 1 1;@;", "@left;", "@whole;", "@bold 1;", "@foldz 1;",
+            "@zunfold;", "@afold 1;", "cut @deft;", "fold 1@:;", "fold @/1;", "fold@`1;", "fold@{1;",
+            "@fold 5 ; zzz", "fold 5 @zzz;", "sheet 1 1;@x;cut left;", "lines 1;lines 2;note 1 1@"
+        };
         CribBooklet x;
         for (String text : texts) {
             String bare = text.replace("@", "");
