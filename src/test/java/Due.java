@@ -24,6 +24,10 @@ final class Due {
         }
     }
 
+    int asked() {
+        return asked;
+    }
+
     void end() {
         System.out.println(asked + " answers, " + wrong + " of them not as due");
         if (wrong != 0) {

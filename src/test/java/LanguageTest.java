@@ -139,7 +139,7 @@ public final class LanguageTest {
     }
 
     private static void useAll(CribBooklet booklet) {
-        for (int i = 0; i < 4; i++) {
+        for (int i = 0; i < 3; i++) {
             booklet.setSheet(4, 4);
             booklet.printAll(1313);
             for (int fold : new int[] {1, 3, 1, 3}) {
