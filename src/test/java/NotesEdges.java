@@ -191,7 +191,8 @@ final class NotesEdges {
         b.row("3*addNote(0, 0, 1, 0) removeNote(2)=2 removeNote(0)=1 removeNote(0)=0");
         b.row(FULL + "removeNote(0)=11 removeNote(10)=10");
         b.promise(15, "INVALID_ARGUMENT if there is no such note");
-        b.rows("", "removeNote(0)=INVALID", "removeNote(-1)=INVALID", "addNote(0, 0, 1, 0) removeNote(1)=INVALID removeNote(0)=0 removeNote(0)=INVALID",
+        b.rows("", "removeNote(0)=INVALID", "removeNote(-1)=INVALID",
+                "addNote(0, 0, 1, 0) removeNote(1)=INVALID removeNote(0)=0 removeNote(0)=INVALID",
                 FULL + "removeNote(12)=INVALID removeNote(11)=11 removeNote(11)=INVALID");
     }
 
@@ -246,8 +247,9 @@ final class NotesEdges {
         b.range(ONE + "addNote(0, 0, 1, 0)", "index(0, #)", 0, 1);
         b.row(ONE + "addNote(50, 9, 5, 0) addNote(49, 8, 1, 0) index(0, 0)=49 index(0, 1)=1 index(1, 0)=50 index(1, 1)=0");
         b.promise(34, "ILLEGAL_STATE if the sheet is no booklet");
-        b.rows("addNote(1, 1, 1, 1)", "index(0, 0)=ILLEGAL", "index(0, 1)=ILLEGAL", "index(5, 0)=ILLEGAL", "index(-1, 0)=ILLEGAL", "index(0, 2)=ILLEGAL",
-                "index(-1, -1)=ILLEGAL", "setSheet(4, 4) fold(1) fold(1) fold(3) index(0, 0)=ILLEGAL fold(3) index(0, 0)=1");
+        b.rows("addNote(1, 1, 1, 1)", "index(0, 0)=ILLEGAL", "index(0, 1)=ILLEGAL", "index(5, 0)=ILLEGAL",
+                "index(-1, 0)=ILLEGAL", "index(0, 2)=ILLEGAL", "index(-1, -1)=ILLEGAL",
+                "setSheet(4, 4) fold(1) fold(1) fold(3) index(0, 0)=ILLEGAL fold(3) index(0, 0)=1");
         b.promise(34, "INVALID_ARGUMENT if an argument is out of range");
         b.row(ONE + "index(-1, 0)=INVALID index(0, 2)=INVALID index(0, -1)=INVALID index(5, 2)=INVALID index(-1, 2)=INVALID index(MAX, MAX)=INVALID");
         b.promise(34, "NONE if there are not so many subjects");

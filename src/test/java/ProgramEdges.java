@@ -40,6 +40,9 @@ final class ProgramEdges {
         b.runs("fold(1)", "unfold;", 1);
         b.fails("", "@;", " @;", "lines 1;@;", "lines 1@", "lines 1 @lines 2;", "@1;", "lines 1;@1 lines;", "@\"lines\" 1;", "@x;", "@sheets 1 1;",
                 "@shee 1 1;", "@Sheet 1 1;", "@lline 1;", "@foldfold 1;");
+        b.fails("fold(1)", "@theet 1 1;", "@sheer 1 1;", "@gold 1;", "@folt 1;", "@infold;", "@unfolt;", "@opine top;", "@spins top;",
+                "@prins 0;", "@orint 0;", "@out top;", "@cup top;", "@ttaple 0;", "@staplf 0;", "@vote 0 0 1;", "@nota 0 0 1;", "@mines 1;",
+                "@linet 1;", "@left;", "@whole;");
     }
 
     private static void commandTerms(Bench b) {
@@ -64,7 +67,8 @@ final class ProgramEdges {
         b.term("Programs", "\"spine\" \"left\" or \"top\" as setSpine()");
         b.same("'spine top;' run()", "setSpine(1)");
         b.same("setSpine(1) 'spine left;' run()", "setSpine(1) setSpine(0)");
-        b.fails("", "spine@;", "spine @right;", "spine @bottom;", "spine @0;", "spine @1;", "spine @lef;", "spine @topp;", "spine top @top;");
+        b.fails("", "spine @meft;", "spine @lefs;", "spine @sop;", "spine @tos;", "spine@;", "spine @right;", "spine @bottom;",
+                "spine @0;", "spine @1;", "spine @lef;", "spine @topp;", "spine top @top;");
         b.fails(ALL_FOLDED + " staple(0)", "@spine top;", "@spine left;");
         b.term("Programs", "\"print\" FOLDS as printAll()");
         b.same("'print 113;' run()", "printAll(113)");
@@ -81,7 +85,8 @@ final class ProgramEdges {
         b.same(ALL_FOLDED + " 'cut right;' run()", ALL_FOLDED + " cut(1)");
         b.same(ALL_FOLDED + " 'cut top;' run()", ALL_FOLDED + " cut(2)");
         b.same(ALL_FOLDED + " 'cut bottom;' run()", ALL_FOLDED + " cut(3)");
-        b.fails(ONE, "cut@;", "cut @0;", "cut @middle;", "cut left @right;", "cut top;@cut top;", "cut @bottoms;");
+        b.fails(ONE, "cut @deft;", "cut @night;", "cut @righs;", "cut @cottom;", "cut @bottos;", "cut @too;", "cut@;", "cut @0;",
+                "cut @middle;", "cut left @right;", "cut top;@cut top;", "cut @bottoms;");
         b.fails("", "@cut left;", "fold 1 1;@cut left;");
         b.term("Programs", "\"staple\" PLACE as staple()");
         b.same(ONE + " 'staple 0;' run()", ONE + " staple(0)");
@@ -96,8 +101,9 @@ final class ProgramEdges {
         b.same("'note 0 0 1;' run()", "addNote(0, 0, 1, 0)");
         b.same("'note 99 9 20 whole;' run()", "addNote(99, 9, 20, 1)");
         b.same("'note 1 2 3 whole;note 4 5 6;' run()", "addNote(1, 2, 3, 1) addNote(4, 5, 6, 0)");
-        b.fails("", "note@;", "note 1@;", "note 1 2@;", "note 1 2 @whole;", "note 1 2 3 @4;", "note 1 2 3 whole @whole;", "note 1 2 3 @wholes;",
-                "note 1 2 3 @left;", "@note 100 0 1;", "@note 0 10 1;", "@note 0 0 0;", "@note 0 0 21 whole;", "note @whole;");
+        b.fails("", "note 1 2 3 @vhole;", "note 1 2 3 @wholf;", "note@;", "note 1@;", "note 1 2@;", "note 1 2 @whole;", "note 1 2 3 @4;",
+                "note 1 2 3 whole @whole;", "note 1 2 3 @wholes;", "note 1 2 3 @left;", "@note 100 0 1;", "@note 0 10 1;",
+                "@note 0 0 0;", "@note 0 0 21 whole;", "note @whole;");
         b.fails("12*addNote(0, 0, 1, 0)", "@note 0 0 1;");
         b.term("Programs", "\"lines\" LINES as setLines()");
         b.same("'lines 1;' run()", "setLines(1)");
@@ -129,11 +135,12 @@ final class ProgramEdges {
         b.runs("", "print 113;", 1);
         b.runs(MOST, "print 1133;", 1);
         b.runs("", "note 0 0 1;", 1);
-        b.fails("", "lines @00;", "lines @01;", "lines @0001;", "lines @00000;", "lines @10000;", "lines @12345678;", "note 0 0 @01;", "note 1 @00 1;",
-                "@lines 9999;", "@lines 1000;");
+        b.fails("", "lines @00;", "lines @01;", "lines @0001;", "lines @00000;", "lines @10000;", "lines @12345678;",
+                "note 0 0 @01;", "note 1 @00 1;", "@lines 9999;", "@lines 1000;");
         b.fails(MOST, "print @01133;", "print @11330;");
         b.term("Programs", "(if it is out of range for a call, the call fails)");
-        b.fails("", "@lines 0;", "@lines 10;", "@fold 0;", "@sheet 9999 9999;", "@print 9999;", "@staple 9999;", "@note 100 10 21;", "lines 1;@lines 0;x");
+        b.fails("", "@lines 0;", "@lines 10;", "@fold 0;", "@sheet 9999 9999;", "@print 9999;", "@staple 9999;",
+                "@note 100 10 21;", "lines 1;@lines 0;x");
     }
 
     private static void spaceTerms(Bench b) {
@@ -209,6 +216,9 @@ final class ProgramEdges {
         b.row("'x' clearText() count(12)=0 run()=0");
         b.row("120*append(120) clearText() count(12)=0 'lines 9;' run()=1 count(13)=9 clearText()=0");
         b.row("'lines 9;' clearText() undo()=ILLEGAL run()=0 count(13)=5");
+        b.row("'lines 12;' run()=-1000 clearText() 'lines 1' run()=-1007 clearText() 'line' run()=-1000");
+        b.row("'lines  x' run()=-1007 clearText() 'lines' run()=-1005");
+        b.row("'lines 1;lines 2;' run()=2 'lines 3;' run()=1 count(13)=3 'lines 4' run()=-1007");
         b.promise(21, "Returns the previous length of the text");
         b.row("clearText()=0 append(1) clearText()=1 clearText()=0 120*append(1) clearText()=120 119*append(1) clearText()=119");
     }

@@ -49,7 +49,8 @@ final class StatesEdges {
             {"setSheet(1, 1)", "staple(9)"}, {"setSheet(1, 1) staple(9)", "unstaple(9)"}, {"setSheet(1, 1) staple(9)", "unstaple(9) staple(0)"},
             {"", "setLegs(16)"}, {"setLegs(16)", "setLegs(1)"}, {"", "see(15, 31, 1)"}, {"8*see(1, 1, 1)", "forget()"},
             {"printAll(113) see(0, 0, 0)", "forget() see(0, 0, 1)"}, {"printAll(113) see(0, 0, 0)", "forget() see(0, 1, 0)"},
-            {"printAll(113) see(0, 0, 0)", "forget() see(1, 0, 0)"}, {"addNote(1, 2, 3, 1)", "removeNote(0) addNote(1, 2, 3, 0)"}, {"", "addNote(99, 9, 20, 1)"},
+            {"printAll(113) see(0, 0, 0)", "forget() see(1, 0, 0)"},
+            {"addNote(1, 2, 3, 1)", "removeNote(0) addNote(1, 2, 3, 0)"}, {"", "addNote(99, 9, 20, 1)"},
             {"11*addNote(0, 0, 1, 0) addNote(99, 9, 20, 1)", "removeNote(0)"}, {"", "setLines(9)"}, {"setLines(9)", "setLines(1)"},
             {"", "fold(1) unfold()"}, {"", "print(0, 0, 0, 1, 0) print(0, 0, 0, -1, 0)"}, {"setSheet(1, 1)", "staple(0) unstaple(0)"}};
         for (String[] change : changes) {
@@ -58,7 +59,8 @@ final class StatesEdges {
         for (String rich : RICH) {
             b.restored(rich, CHANGES);
         }
-        b.restored("addNote(1, 1, 1, 1) " + CHANGES, "setSheet(4, 4) printAll(1313) fold(1) setSpine(1) setLegs(1) see(0, 0, 0) addNote(0, 0, 1, 1) setLines(1)");
+        b.restored("addNote(1, 1, 1, 1) " + CHANGES,
+                "setSheet(4, 4) printAll(1313) fold(1) setSpine(1) setLegs(1) see(0, 0, 0) addNote(0, 0, 1, 1) setLines(1)");
         b.term("Snapshots", "To restore it makes all this as it was; nothing else changes");
         b.row("setLines(1) take(0) setLines(9) take(1) 'abc' restore(0)=0 count(13)=1 count(12)=3 count(10)=2 count(11)=5 restore(1) count(13)=9"
                 + " restore(0) count(13)=1 clearText()=3");
@@ -163,7 +165,8 @@ final class StatesEdges {
                 "unstaple(-1)=INVALID", "restore(-1)=INVALID", "page(-1, -1)=ILLEGAL", "opening(-1, -1)=ILLEGAL", "hanging(-1)=ILLEGAL",
                 "together(-1, -1)=ILLEGAL", "reading(-1)=ILLEGAL", "pageOf(-1)=ILLEGAL", "index(-1, -1)=ILLEGAL");
         b.rows(RICH[3], "fold(5)=INVALID", "setSpine(-1)=INVALID", "print(1, 0, 0, 1, 0)=INVALID", "printAll(3)=INVALID", "cut(-1)=INVALID",
-                "staple(10)=INVALID", "staple(9)=ILLEGAL", "see(4, 0, 0)=INVALID", "addNote(0, 0, 0, 0)=INVALID", "append(0)=INVALID", "restore(3)=INVALID");
+                "staple(10)=INVALID", "staple(9)=ILLEGAL", "see(4, 0, 0)=INVALID", "addNote(0, 0, 0, 0)=INVALID", "append(0)=INVALID",
+                "restore(3)=INVALID");
     }
 
     private static void noneIsNoError(Bench b) {
@@ -220,7 +223,8 @@ final class StatesEdges {
         b.promise(18, "slot: 0 or 1");
         b.range("take(0) take(1)", "restore(#)", 0, 1);
         b.promise(18, "Returns the number of folds then");
-        b.row("setSheet(4, 4) take(0) fold(1) fold(1) fold(3) fold(3) take(1) restore(0)=0 restore(1)=4 count(2)=4 unfold() restore(0)=0 restore(1)=4");
+        b.row("setSheet(4, 4) take(0) fold(1) fold(1) fold(3) fold(3) take(1) restore(0)=0 restore(1)=4 count(2)=4"
+                + " unfold() restore(0)=0 restore(1)=4");
         b.promise(18, "INVALID_ARGUMENT if slot is out of range");
         b.rows("", "restore(2)=INVALID", "restore(-1)=INVALID", "take(0) take(1) restore(2)=INVALID");
         b.promise(18, "ILLEGAL_STATE if the slot is empty");
