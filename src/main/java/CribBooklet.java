@@ -837,7 +837,7 @@ public final class CribBooklet {
             boolean sideways = fold == LEFT_OVER || fold == RIGHT_OVER;
             int newRows = sideways ? rows : rows / 2;
             int newColumns = sideways ? columns / 2 : columns;
-            for (int place = 0; place < newRows * newColumns; place++) {
+            for (int place = 0; newColumns > 0 && place < newRows * newColumns; place++) {
                 int stayRow = place / newColumns + (fold == UPPER_OVER ? newRows : 0);
                 int stayColumn = place % newColumns + (fold == LEFT_OVER ? newColumns : 0);
                 int moveRow = sideways ? stayRow : rows - 1 - stayRow;

@@ -4,10 +4,10 @@ import java.util.List;
 
 /**
  * Each clause of the document that names a boundary case has a test of its own, by the clause's own words. At the end,
- * no clause of the document may be left without a test but those that name no case.
+ * no words of the document may be left without a test but those that name no case.
  */
 public final class EdgesTest {
-    /** What a clause that needs no test of its own begins with: headings, and what is free. */
+    /** What words that need no test of their own begin with: headings, and what is free. */
     private static final List<String> NO_CASE = List.of(
             "What it is: A crib sheet that is folded into a booklet",
             "What it is: what later calls answer is free",
@@ -19,7 +19,7 @@ public final class EdgesTest {
             "Errors: Ahead of the calls append,",
             "Errors: Ahead of the calls count,",
             "The public face: ", "Not promised: ");
-    /** What a clause that needs no test of its own ends with. */
+    /** What words that need no test of their own end with. */
     private static final List<String> NO_CASE_EITHER = List.of(": Returns the value", ": Returns the number");
 
     public static void main(String[] args) throws IOException {
@@ -34,9 +34,9 @@ public final class EdgesTest {
         ProgramEdges.tests(bench);
         bench.endClause();
         due.of("the document");
-        for (String clause : doc.unquotedClauses()) {
-            due.holds("tested: " + clause, NO_CASE.stream().anyMatch(clause::startsWith)
-                    || NO_CASE_EITHER.stream().anyMatch(clause::endsWith));
+        for (String words : doc.unquoted()) {
+            due.holds("tested: " + words, NO_CASE.stream().anyMatch(words::startsWith)
+                    || NO_CASE_EITHER.stream().anyMatch(words::endsWith));
         }
         due.end();
     }

@@ -12,13 +12,7 @@ import java.util.regex.Pattern;
 /** Rules of ../shared/LANGUAGE.md that can be seen from the text and from the compiled classes. */
 public final class LanguageTest {
     private static final Due DUE = new Due();
-    private static final String[] FACE = {
-        "setSheet/2", "fold/1", "unfold/0", "setSpine/1", "print/5", "printAll/1", "cut/1", "staple/1",
-        "unstaple/1", "setLegs/1", "see/3", "forget/0", "addNote/4", "removeNote/1", "setLines/1", "take/1",
-        "restore/1", "undo/0", "append/1", "clearText/0", "run/0", "count/1", "side/4", "layer/3", "page/2",
-        "opening/2", "hanging/1", "together/2", "pieces/0", "reading/1", "pageOf/1", "note/2", "index/2",
-        "effort/1", "fitting/1", "readsBy/1", "cutsFor/1", "best/1"
-    };
+    private static final Path SOURCE = Path.of("src/main/java/CribBooklet.java");
     private static final String[] FORBIDDEN_WORDS = {
         "throw", "throws", "try", "catch", "finally", "synchronized", "assert", "var", "yield", "interface\\s*@",
         "equals", "hashCode", "toString", "System\\.out", "System\\.err", "System\\.exit", "System\\.nano\\w*",
@@ -33,15 +27,23 @@ public final class LanguageTest {
         DUE.end();
     }
 
-    private static void face() {
+    /** The class has the document's face, and nothing else of it is seen from outside. */
+    private static void face() throws Exception {
         DUE.of("rule 1");
-        Set<String> due = new TreeSet<>(Set.of(FACE));
+        Face face = new Face(Path.of("../shared/DOC.md"));
+        String source = Files.readString(SOURCE);
+        Set<String> due = new TreeSet<>();
+        for (Face.Row method : face.methods) {
+            due.add(method.name() + "/" + method.parameters().size());
+            DUE.holds("the source has " + method.line(), source.contains("    " + method.line() + " {\n"));
+        }
         Set<String> names = new HashSet<>();
         Set<String> found = new TreeSet<>();
         for (Method method : CribBooklet.class.getDeclaredMethods()) {
             if (Modifier.isPublic(method.getModifiers())) {
                 found.add(method.getName() + "/" + method.getParameterCount());
                 names.add(method.getName());
+                DUE.holds(method + " is no static one", !Modifier.isStatic(method.getModifiers()));
                 DUE.holds(method + " answers an int", method.getReturnType() == int.class);
                 for (Class<?> type : method.getParameterTypes()) {
                     DUE.holds(method + " takes ints", type == int.class);
@@ -51,6 +53,12 @@ public final class LanguageTest {
             }
         }
         DUE.holds("the public methods are " + due + ", not " + found, due.equals(found));
+        for (Face.Constant constant : face.constants) {
+            Field field = CribBooklet.class.getField(constant.name());
+            DUE.holds(field + " is a constant", Modifier.isStatic(field.getModifiers())
+                    && Modifier.isFinal(field.getModifiers()) && field.getType() == int.class);
+            DUE.is(constant.name(), field.getInt(null), constant.value());
+        }
         for (Class<?> type : allClasses()) {
             for (Method method : type.getDeclaredMethods()) {
                 boolean isPublic = type == CribBooklet.class && Modifier.isPublic(method.getModifiers());
@@ -65,10 +73,11 @@ public final class LanguageTest {
                 DUE.holds(field + " is private", Modifier.isPrivate(field.getModifiers()));
             }
         }
-        DUE.is("public constants", constants, 4);
+        DUE.is("public constants", constants, face.constants.size());
         Constructor<?>[] constructors = CribBooklet.class.getDeclaredConstructors();
         DUE.is("constructors", constructors.length, 1);
         DUE.is("its parameters", constructors[0].getParameterCount(), 0);
+        DUE.holds("it is public", Modifier.isPublic(constructors[0].getModifiers()));
         DUE.holds("the class is public and final", Modifier.isPublic(CribBooklet.class.getModifiers())
                 && Modifier.isFinal(CribBooklet.class.getModifiers()));
     }
@@ -107,7 +116,7 @@ public final class LanguageTest {
 
     private static void words() throws Exception {
         DUE.of("rules 4, 6 and 13");
-        String source = Files.readString(Path.of("src/main/java/CribBooklet.java"));
+        String source = Files.readString(SOURCE);
         String code = source.replaceAll("(?s)/\\*.*?\\*/", "").replaceAll("//[^\n]*", "").replaceAll("\"[^\"]*\"", "\"\"");
         for (String word : FORBIDDEN_WORDS) {
             DUE.holds("no " + word, !Pattern.compile("\\b" + word + "\\b").matcher(code).find());

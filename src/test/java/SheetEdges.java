@@ -115,7 +115,7 @@ final class SheetEdges {
         b.term("Folds", "A layer is mirrored if it has been turned over about a vertical axis an odd number of times");
         b.row("setSheet(1, 4) fold(2) layer(0, 0, 4)=1 layer(0, 1, 4)=0");
         b.row("setSheet(1, 4) fold(2) fold(2) layer(0, 0, 4)=1 layer(0, 1, 4)=0 layer(0, 2, 4)=1 layer(0, 3, 4)=0");
-        b.term("Folds", "it is upside down if it has been turned over about a horizontal axis an odd number of times");
+        b.term("Folds", "and it is upside down if it has been turned over about a horizontal axis an odd number of times");
         b.row("setSheet(4, 1) fold(3) layer(0, 0, 3)=1 layer(0, 1, 3)=0");
         b.row("setSheet(4, 1) fold(3) fold(3) layer(0, 0, 3)=1 layer(0, 1, 3)=0 layer(0, 2, 3)=1 layer(0, 3, 3)=0");
         b.term("Folds", "The sheet is a booklet if one place is left");
@@ -393,7 +393,7 @@ final class SheetEdges {
         b.range("", "count(#)", 0, 15);
         b.promise(23, "INVALID_ARGUMENT if what is out of range");
         b.outside("setSheet(1, 1) cut(0) staple(0)", "count(#)", 0, 15);
-        b.promise(23, "0 the rows of the sheet, 1 its columns");
+        b.promise(23, "what: 0 the rows of the sheet, 1 its columns");
         b.rows("", "setSheet(1, 4) count(0)=1 count(1)=4", "setSheet(4, 1) count(0)=4 count(1)=1",
                 "setSheet(4, 4) fold(1) fold(3) count(0)=4 count(1)=4");
         b.promise(23, "2 the number of folds, 3 the layers that each place has, 4 the folds as a number (0 if there are none)");
